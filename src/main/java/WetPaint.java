@@ -103,6 +103,9 @@ public final class WetPaint {
     }
 
     public int text(int sort, int at) {
+        // The tape is taken in any case, also where no text is read from it.
+        int taken = now.length;
+        now.length = 0;
         now.fault = 0;
         now.place = NONE;
         int there = now.howMany(sort);
@@ -113,8 +116,7 @@ public final class WetPaint {
         if (further ? there >= EACH : at < 0 || at >= there) {
             return NO_SUCH;
         }
-        reader.readText(now.tape, now.length, sort);
-        now.length = 0;
+        reader.readText(now.tape, taken, sort);
         now.fault = reader.fault;
         now.place = reader.place;
         if (now.fault != 0) {

@@ -7,6 +7,7 @@ public final class TextsTest {
         newObject();
         tape();
         texts();
+        refused();
         faults();
         faultsOfNumbers();
         faultsOfCounts();
@@ -76,8 +77,8 @@ public final class TextsTest {
         check.due("a sort above", x.text(4, NONE), -2);
         Check.feed(x, "bench 4;", 0);
         check.due("as many as may be", x.text(0, NONE), -2);
-        check.due("no text was read, so the tape stays", x.end(8), 8);
-        check.due("in the place of one", x.text(0, 1), 1);
+        check.due("the tape is taken all the same", x.end(1), NONE);
+        check.due("in the place of one", Check.text(x, 0, 1, "bench 4;"), 1);
         check.due("its benches", x.park(1, 3), 1);
         check.due("the other's", x.park(0, 3), 0);
         check.due("a fault", Check.text(x, 0, 1, "bench;"), NONE);
@@ -90,6 +91,48 @@ public final class TextsTest {
         check.due("a text without fault", Check.text(x, 0, 1, "bench 2;"), 1);
         check.due("FAULT 0 again", x.fault(0), 0);
         check.due("place none again", x.fault(1), NONE);
+    }
+
+    /** Where text() answers -2 the tape is taken too, but nothing is read: neither a FAULT nor a text comes of it. */
+    private static void refused() {
+        String[] texts = {"bench 4;", "deep 0 1;", "alarm 1 2 3 4;", "halves 0 1 2;"};
+        for (int sort = 0; sort < 4; sort++) {
+            WetPaint x = new WetPaint();
+            refuse(x, sort, 0, texts[sort]);
+            refuse(x, sort, -2, texts[sort]);
+            refuse(x, -1, NONE, texts[sort]);
+            refuse(x, 4, NONE, texts[sort]);
+            check.due("nothing was told", x.count(sort), 0);
+            check.due("first", Check.text(x, sort, NONE, texts[sort]), 0);
+            refuse(x, sort, 1, texts[sort]);
+            check.due("second", Check.text(x, sort, NONE, texts[sort]), 1);
+            refuse(x, sort, NONE, texts[sort]);
+            refuse(x, sort, NONE, "no text at all");
+            refuse(x, sort, 2, texts[sort]);
+            check.due("two are told", x.count(sort), 2);
+            check.due("in the place of one yet", Check.text(x, sort, 0, texts[sort] + texts[sort]), 0);
+        }
+        WetPaint x = new WetPaint();
+        Check.feed(x, "bench 4;", 0);
+        check.due("image with a tape", x.image(0), true);
+        check.due("refused", x.text(0, 0), -2);
+        check.due("taken", x.end(1), NONE);
+        check.due("image without it", x.image(1), true);
+        check.due("again with it", x.again(0), true);
+        check.due("its length", x.end(8), 8);
+        check.due("again without it", x.again(1), true);
+        check.due("no length", x.end(1), NONE);
+    }
+
+    private static void refuse(WetPaint x, int sort, int at, String text) {
+        String call = "text(" + sort + ", " + at + ") of " + text;
+        check.due("a fault ahead of " + call, Check.text(x, 0, NONE, "?") == NONE || x.count(0) == 2, true);
+        Check.feed(x, text, 0);
+        check.due(call, x.text(sort, at), -2);
+        check.due("fault of " + call, x.fault(0), 0);
+        check.due("place of " + call, x.fault(1), NONE);
+        check.due("feed behind " + call, x.feed(0, 0, 0, 0, 0), 20);
+        check.due("end(0) behind " + call, x.end(0), 0);
     }
 
     /** Reads a text that has a FAULT. */
