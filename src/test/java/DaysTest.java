@@ -303,6 +303,8 @@ public final class DaysTest {
         check.due("act of no comer", x.act(0, 1, 0, 5, 1, 0), NO_WORTH);
         check.due("act at hour 48", x.act(0, 1, 0, 48, 0, 0), NO_WORTH);
         check.due("act, none fit", x.act(0, 1, 1, 5, 0, 0), NO_WORTH);
+        // Each behind one that has an answer, so that nothing of that one is left over.
+        check.due("act again", x.act(0, 1, 0, 5, 0, 0), 2);
         check.due("act of no bench", x.act(0, 1, 3, 5, 0, 0), NO_WORTH);
         check.due("act of no sight", x.act(0, 2, 0, 5, 0, 0), NO_WORTH);
         check.due("act of no park", x.act(1, 1, 0, 5, 0, 0), NO_WORTH);
@@ -362,6 +364,11 @@ public final class DaysTest {
                 }
             }
         }
+        WetPaint one = Check.of("bench 5;painted 0 3;");
+        WetPaint oneTold = Check.of("bench 5;painted 0 3;" + drawnComers(7, 14, 1));
+        for (int what = 0; what < 8; what++) {
+            check.due("drawn at one bench " + what, one.drawn(0, 7, 14, what), oneTold.day(0, what));
+        }
         check.due("drawn, n 0", x.drawn(0, 1, 0, 0), NONE);
         check.due("drawn, n 15", x.drawn(0, 1, 15, 0), NONE);
         check.due("drawn, what -1", x.drawn(0, 1, 1, -1), NONE);
@@ -409,6 +416,13 @@ public final class DaysTest {
         WetPaint y = Check.of("bench 1;comer card 5 0 9 9 1;");
         check.due("one bench alone", y.otherwise(0, 0, 3), 0);
         check.due("one bench's worth", y.otherwise(0, 0, 4), 9);
+        // It never dries, and there is no hour 48 at which it might: neither to wait for nor to paint at.
+        WetPaint w = Check.of("rate 0 47 0;bench 1;painted 0 0;comer touch 46 0 9 9 4;comer card 47 0 9 6 4;");
+        check.due("no wait till 48", w.otherwise(0, 0, 1), 0);
+        check.due("what comes of it", w.otherwise(0, 0, 2), -4);
+        check.due("the last hour's comer waits for nothing", w.otherwise(0, 1, 1), 0);
+        check.due("anew at no hour 48", w.anew(0, 0, true), 47);
+        check.due("anew at 47, harm", w.anew(0, 0, false), 6);
         int[] spare = {0, 13, 0, 9};
         WetPaint z = Check.of("bench 1;bench 1;painted 0 0;comer card 5 0 9 9 1;comer touch 5 0 9 9 4;comer sheep 9 1 9 1 1;", "");
         for (int what = 0; what < 4; what++) {

@@ -147,6 +147,13 @@ public final class TextsTest {
 
     private static void faults() {
         bad(0, "wet 0 0;", 1, 0);
+        bad(0, "fresh 9;benchz 1;", 1, 8);
+        bad(0, "fresh 9;bencha 1;", 1, 8);
+        bad(0, "fresh 9;bench{1;", 1, 13);
+        bad(0, "fresh 9;bench`1;", 1, 13);
+        bad(0, "fresh 9;bench/1;", 1, 13);
+        bad(0, "fresh 9;bench:1;", 1, 13);
+        bad(0, "fresh 9;bench9;", 0, NONE);
         bad(0, "bench 1;deep 0 1;", 1, 8);
         bad(1, "bench 1;", 1, 0);
         bad(2, "halves 0 0 0;", 1, 0);
