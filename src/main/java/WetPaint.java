@@ -184,20 +184,16 @@ public final class WetPaint {
 
     public int wet(int park, int bench, int hour, int what) {
         Park p = now.parkAt(park);
-        if (p == null || !p.hasBench(bench)) {
+        // DRIES does not hang on the hour, but an hour that there is not has no answer either.
+        if (p == null || !p.hasBench(bench) || !isHour(hour)) {
             return NONE;
         }
-        // The document puts the hour aside for DRIES, so it is not looked at there.
-        if (what == 2) {
-            return p.dries(p.painted[bench]);
+        switch (what) {
+            case 0: return p.wetness(p.painted[bench], hour);
+            case 1: return p.stageOf(bench, hour);
+            case 2: return p.dries(p.painted[bench]);
+            default: return NONE;
         }
-        if (!isHour(hour)) {
-            return NONE;
-        }
-        if (what == 0) {
-            return p.wetness(p.painted[bench], hour);
-        }
-        return what == 1 ? p.stageOf(bench, hour) : NONE;
     }
 
     public int did(int park, int k, int what) {
@@ -519,18 +515,18 @@ public final class WetPaint {
         return costTimesOf(alarms, k) - known;
     }
 
-    /** The ALARM of which the fall is the greatest part of its COST; a COST of nothing falls by nothing. */
+    /** The ALARM of which COST falls most; falls are told times OF, so each is set against the other's OF. */
     private static int alarmToMend(Rows alarms) {
         int mend = NONE;
         int mendFall = 0;
-        int mendCost = 1;
+        int mendOf = 1;
         for (int k = 0; k < alarms.size; k++) {
             int fall = fallTimesOf(alarms, k);
-            int cost = Math.max(1, costTimesOf(alarms, k));
-            if (mend == NONE || fall * mendCost > mendFall * cost) {
+            int of = alarms.get(k, 1);
+            if (mend == NONE || fall * mendOf > mendFall * of) {
                 mend = k;
                 mendFall = fall;
-                mendCost = cost;
+                mendOf = of;
             }
         }
         return mend;

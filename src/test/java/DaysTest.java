@@ -39,14 +39,18 @@ public final class DaysTest {
         check.due("wetness at 47", x.wet(1, 0, 47, 0), 20);
         check.due("wetness ahead of paint", x.wet(1, 0, 2, 0), 0);
         check.due("dries not till 47", x.wet(1, 0, 0, 2), 48);
-        check.due("the hour is put aside", x.wet(0, 0, 99, 2), 8);
-        check.due("hour 48", x.wet(0, 0, 48, 0), NONE);
-        check.due("hour -1", x.wet(0, 0, -1, 1), NONE);
+        check.due("dries at 47", x.wet(0, 0, 47, 2), 8);
+        for (int what = 0; what < 3; what++) {
+            for (int hour : new int[] {-1, 48, 99, Integer.MIN_VALUE, Integer.MAX_VALUE}) {
+                check.due("wet at " + hour + ", what " + what, x.wet(0, 0, hour, what), NONE);
+                check.due("wet of never at " + hour + ", what " + what, x.wet(0, 1, hour, what), NONE);
+            }
+        }
+        check.due("says", x.card(0, 0, 0), 8);
         check.due("bench 2", x.wet(0, 2, 0, 0), NONE);
         check.due("park 2", x.wet(2, 0, 0, 2), NONE);
         check.due("what 3", x.wet(0, 0, 0, 3), NONE);
         check.due("what -1", x.wet(0, 0, 0, -1), NONE);
-        check.due("says", x.card(0, 0, 0), 8);
         check.due("says of never", x.card(0, 1, 0), 0);
         check.due("says not till 47", x.card(1, 0, 0), 48);
         check.due("late", x.card(0, 0, 1), 4);

@@ -596,9 +596,9 @@ public final class ModelTest {
             text.append("alarm ").append(trues).append(' ').append(of).append(' ').append(loss).append(' ').append(toil).append(';');
             int cost = Math.min(trues * loss, of * toil);
             int known = trues * Math.min(loss, toil);
-            double part = cost == 0 ? 0 : (double) (cost - known) / cost;
-            if (part > most + 1e-9) {
-                most = part;
+            double fall = (double) cost / of - (double) known / of;
+            if (fall > most + 1e-9) {
+                most = fall;
                 mend = k;
             }
             due[k] = new int[] {trues, of, loss, toil, trues * loss >= of * toil ? 1 : 0, cost};

@@ -348,8 +348,13 @@ public final class TextsTest {
         check.due("count of alarms", x.count(2), 2);
         check.due("count of plans", x.count(3), 1);
         mend("alarm 0 5 9 9;alarm 9 9 9 9;", 0);
-        // Parts of COST that fall: 0; 1/2 (8 to 4); 3/4 (8 to 2); 3/4 (4 to 1).
-        mend("alarm 9 9 9 9;alarm 1 2 9 4;alarm 1 4 9 2;alarm 1 4 4 1;", 2);
+        // COST falls by: 0; 2 (8 by 2 to 4 by 2); 6 by 4 (8 by 4 to 2 by 4); 2 (16 by 4 to 8 by 4).
+        mend("alarm 9 9 9 9;alarm 1 2 9 4;alarm 1 4 9 2;alarm 2 4 9 4;", 1);
+        mend("alarm 9 9 9 9;alarm 1 4 9 2;alarm 2 4 9 4;alarm 1 2 9 4;", 2);
+        // Neither the fall times OF (2, 3) nor the fall as a part of COST (2 of 4, 3 of 4).
+        mend("alarm 1 2 4 2;alarm 1 4 8 1;", 0);
+        mend("alarm 1 4 8 1;alarm 1 2 4 2;", 1);
+        mend("alarm 0 20 99 99;alarm 20 20 99 99;alarm 0 1 0 0;", 0);
         mend("alarm 0 9 0 0;alarm 1 2 3 2;", 1);
         mend("alarm 1 2 3 2;alarm 0 9 0 0;", 0);
     }
