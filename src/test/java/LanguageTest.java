@@ -18,6 +18,7 @@ public final class LanguageTest {
 
     public static void main(String[] args) throws Exception {
         face();
+        faceOfDocument();
         classesInside();
         words();
         check.end("LanguageTest");
@@ -51,6 +52,21 @@ public final class LanguageTest {
         Constructor<?>[] constructors = WetPaint.class.getDeclaredConstructors();
         check.due("constructors", constructors.length, 1);
         check.due("the class is public and final", WetPaint.class.getModifiers(), Modifier.PUBLIC | Modifier.FINAL);
+    }
+
+    /** Each line of the document's face stands in the source as it is told there. */
+    private static void faceOfDocument() throws Exception {
+        String source = Files.readString(Path.of("src/main/java/WetPaint.java"));
+        String document = Files.readString(Path.of("../shared/DOC.md"));
+        String part = document.substring(document.indexOf("## The public face"), document.indexOf("## Terms"));
+        int lines = 0;
+        for (String line : part.split("\n")) {
+            if (line.startsWith("    public ")) {
+                lines++;
+                check.due("the source has" + line, source.contains("\n" + line.replaceAll("\\);$", ") {") + "\n"), true);
+            }
+        }
+        check.due("lines of the face", lines, 31);
     }
 
     private static void classesInside() {
