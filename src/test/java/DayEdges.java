@@ -331,8 +331,8 @@ final class DayEdges extends Edges {
 
     private void wet() {
         promise(9, "At an hour, 0 .. 47, of a BENCH as PAINTED (never: DRY), what 0: WETNESS, 1: STAGE, 2: DRIES (hour aside; never: 0; 48: not till 47).");
-        WetPaint x = told("", PAINT + "bench 1;painted 2 45;");
         for (int h : new int[] {0, 4, 5, 8, 9, 10, 11, 46, 47}) {
+            WetPaint x = told("", PAINT + "bench 1;painted 2 45;");
             int wetness = h >= 5 && h < 11 ? 12 - 2 * (h - 5) : 0;
             row("bench 0 at " + h, what -> x.wet(1, 0, h, what), NONE, wetness, wetness > 4 ? 2 : wetness > 0 ? 1 : 0, 11);
         }

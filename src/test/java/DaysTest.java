@@ -355,11 +355,13 @@ public final class DaysTest {
     }
 
     private static void drawn() {
-        WetPaint x = Check.of("bench 1;bench 2;bench 3;painted 0 3;painted 1 9;painted 2 20;card 1 9 30;pigeon 0 4;comer best 1 1 1 1 1;", "");
+        String park = "bench 1;bench 2;bench 3;painted 0 3;painted 1 9;painted 2 20;card 1 9 30;pigeon 0 4;";
+        WetPaint x = Check.of(park + "comer best 1 1 1 1 1;", "");
         int[] seeds = {0, 1, -1, 123456789, Integer.MIN_VALUE};
         for (int seed : seeds) {
             for (int n = 1; n <= 14; n++) {
-                WetPaint y = Check.of("bench 1;bench 2;bench 3;painted 0 3;painted 1 9;painted 2 20;card 1 9 30;pigeon 0 4;" + drawnComers(seed, n, 3));
+                x = n % 7 == 1 ? Check.of(park + "comer best 1 1 1 1 1;", "") : x;
+                WetPaint y = Check.of(park + drawnComers(seed, n, 3));
                 for (int what = 0; what < 30; what++) {
                     check.due("drawn " + seed + " " + n + " " + what, x.drawn(0, seed, n, what), y.day(0, what));
                 }

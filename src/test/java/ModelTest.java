@@ -268,54 +268,52 @@ public final class ModelTest {
         }
     }
 
-    private static void askBenches(WetPaint x, Model m) {
-        for (int b = 0; b < m.slats.size(); b++) {
-            Integer p = m.painted[b];
-            String dry = "";
-            int late = 0;
-            for (int h = 0; h < 48; h++) {
-                check.due("wetness", x.wet(0, b, h, 0), m.wetness(p, h));
-                check.due("stage", x.wet(0, b, h, 1), m.stage(p, h));
-                dry += m.stage(p, h) == 0 ? "x" : " ";
-            }
-            for (int[] c : m.comers) {
-                late += c[2] == b && m.stage(p, c[1]) > 0 ? 1 : 0;
-            }
-            int longest = 0;
-            for (String row : dry.split(" ")) {
-                longest = Math.max(longest, row.length());
-            }
-            check.due("dries", x.wet(0, b, 0, 2), m.dries(p));
-            check.due("says", x.card(0, b, 0), m.dries(p));
-            check.due("late", x.card(0, b, 1), late);
-            check.due("longest", x.card(0, b, 2), longest);
-            Model n = m.copy();
-            n.cards[b] = null;
-            int best = day(n).harm;
-            int at = -1;
-            for (int t = p == null ? 0 : p; t < 48; t++) {
-                n.cards[b] = new int[] {p == null ? 0 : p, t};
-                int harm = day(n).harm;
-                if (harm < best) {
-                    best = harm;
-                    at = t;
-                }
-            }
-            check.due("hang " + b, x.hang(0, b, false), best);
-            check.due("hang's hour " + b, x.hang(0, b, true), at);
-            n = m.copy();
-            best = Integer.MAX_VALUE;
-            for (int h = 0; h < 48; h++) {
-                n.painted[b] = h;
-                int harm = day(n).harm;
-                if (harm < best) {
-                    best = harm;
-                    at = h;
-                }
-            }
-            check.due("anew " + b, x.anew(0, b, false), best);
-            check.due("anew's hour " + b, x.anew(0, b, true), at);
+    private static void askBench(WetPaint x, Model m, int b) {
+        Integer p = m.painted[b];
+        String dry = "";
+        int late = 0;
+        for (int h = 0; h < 48; h++) {
+            check.due("wetness", x.wet(0, b, h, 0), m.wetness(p, h));
+            check.due("stage", x.wet(0, b, h, 1), m.stage(p, h));
+            dry += m.stage(p, h) == 0 ? "x" : " ";
         }
+        for (int[] c : m.comers) {
+            late += c[2] == b && m.stage(p, c[1]) > 0 ? 1 : 0;
+        }
+        int longest = 0;
+        for (String row : dry.split(" ")) {
+            longest = Math.max(longest, row.length());
+        }
+        check.due("dries", x.wet(0, b, 0, 2), m.dries(p));
+        check.due("says", x.card(0, b, 0), m.dries(p));
+        check.due("late", x.card(0, b, 1), late);
+        check.due("longest", x.card(0, b, 2), longest);
+        Model n = m.copy();
+        n.cards[b] = null;
+        int best = day(n).harm;
+        int at = -1;
+        for (int t = p == null ? 0 : p; t < 48; t++) {
+            n.cards[b] = new int[] {p == null ? 0 : p, t};
+            int harm = day(n).harm;
+            if (harm < best) {
+                best = harm;
+                at = t;
+            }
+        }
+        check.due("hang " + b, x.hang(0, b, false), best);
+        check.due("hang's hour " + b, x.hang(0, b, true), at);
+        n = m.copy();
+        best = Integer.MAX_VALUE;
+        for (int h = 0; h < 48; h++) {
+            n.painted[b] = h;
+            int harm = day(n).harm;
+            if (harm < best) {
+                best = harm;
+                at = h;
+            }
+        }
+        check.due("anew " + b, x.anew(0, b, false), best);
+        check.due("anew's hour " + b, x.anew(0, b, true), at);
     }
 
     private static void askComers(WetPaint x, Model m) {
@@ -620,18 +618,22 @@ public final class ModelTest {
             if (text.length() > 600) {
                 continue;
             }
+            // An object is used for 512 calls at most, so there is more than one.
+            for (int b = 0; b < m.slats.size(); b++) {
+                askBench(Check.of(text), m, b);
+            }
             WetPaint x = Check.of(text);
             askDay(x, m);
-            askBenches(x, m);
             askComers(x, m);
             askOrder(x, m, random.nextInt(48));
             for (int again = 0; again < 4; again++) {
+                x = again % 2 == 0 ? Check.of(text) : x;
                 List<int[]> prints = drawSight(random, m);
                 StringBuilder seen = new StringBuilder();
                 for (int[] print : prints) {
                     seen.append(PRINTS[print[0]]).append(' ').append(print[1]).append(' ').append(print[2]).append(';');
                 }
-                Check.text(x, 1, again == 0 ? NONE : 0, seen.toString());
+                Check.text(x, 1, x.count(1) == 0 ? NONE : 0, seen.toString());
                 askSight(x, m, prints, random);
                 askPlan(x, m, random);
             }

@@ -57,8 +57,8 @@ final class OtherEdges extends Edges {
         for (int twice = 0; twice < 2; twice++) {
             due("on a third day", y.days(0, 3, 0), 0);
             due("HAS of one who BELIEVES", y.otherwise(0, 0, 0), 0);
-            due("SPARE's HARM", y.spare(0, 1), 0);
             due("WORST", y.spare(0, 3), 5);
+            due("SPARE's HARM", y.spare(0, 1), 0);
             due("ANEW's hour", y.anew(0, 1, true), 4);
             due("RULE's HARM", y.rule(0, 0), 6);
             due("HANG's HARM", y.hang(0, 0, false), 5);
